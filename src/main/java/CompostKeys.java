@@ -98,7 +98,7 @@ public final class CompostKeys {
     public int follow(int kind, int key, int round)
             throws IndexOutOfBoundsException, IllegalArgumentException {
         needKey(kind, key);
-        needRange(round, 1, Integer.MAX_VALUE);
+        needAtLeast(round, 1);
         saved.push(now);
         return now.followReference(kind, key, round);
     }
@@ -162,10 +162,14 @@ public final class CompostKeys {
         }
         saved.push(now);
         int done = 0;
-        int from = 0;
-        while (from < text.length && doOrder(from)) {
+        for (int place = 0; place < text.length; place++) {
+            if (!text.beginsOrder(place)) {
+                continue;
+            }
+            if (!doOrder(place)) {
+                break;
+            }
             done++;
-            from = text.endOfOrder(from) + 1;
         }
         text.length = 0;
         return done;
@@ -215,7 +219,7 @@ public final class CompostKeys {
     public int pile(int kind, int place)
             throws IndexOutOfBoundsException, IllegalArgumentException {
         needKind(kind);
-        needRange(place, 0, Integer.MAX_VALUE);
+        needAtLeast(place, 0);
         return now.keys.keyAt(kind, place);
     }
 
@@ -256,7 +260,7 @@ public final class CompostKeys {
     public int ifFollowed(int kind, int key, int round)
             throws IndexOutOfBoundsException, IllegalArgumentException {
         needKey(kind, key);
-        needRange(round, 1, Integer.MAX_VALUE);
+        needAtLeast(round, 1);
         return now.keys.judge(kind, key, round);
     }
 
@@ -321,6 +325,12 @@ public final class CompostKeys {
     private static void needSetting(int setting) {
         if (setting < 0 || setting >= SETTINGS) {
             throw new IndexOutOfBoundsException("there is no such setting");
+        }
+    }
+
+    private static void needAtLeast(int value, int least) {
+        if (value < least) {
+            throw new IllegalArgumentException("too small");
         }
     }
 
@@ -498,7 +508,8 @@ public final class CompostKeys {
         }
 
         boolean isRipe(int kind, int key) {
-            return statusOf(kind, key) == IN_PILE && daysToRipe(kind, key) == 0;
+            int at = kind * KEYS + key;
+            return status[at] == IN_PILE && day - since[at] >= seasons[kind];
         }
 
         boolean canBeGiven(int kind, int key) {
@@ -1069,13 +1080,8 @@ public final class CompostKeys {
             return code >= '0' && code <= '9';
         }
 
-        /** The place behind the order that begins there: that of a ";" or the end. */
-        int endOfOrder(int from) {
-            int end = from;
-            while (end < length && codeAt(end) != ';') {
-                end++;
-            }
-            return end;
+        boolean beginsOrder(int place) {
+            return place == 0 || codeAt(place - 1) == ';';
         }
 
         /** The number whose digits begin there. */

@@ -18,6 +18,10 @@ final class Check {
         }
     }
 
+    int wrong() {
+        return wrong;
+    }
+
     /** The call is to throw just this exception, and to change nothing that can be seen. */
     void throwing(String call, Class<? extends RuntimeException> want, CompostKeys x, Runnable run) {
         long before = x.digest();

@@ -34,6 +34,10 @@ public final class ForecastTest {
     private static void keyInTells() {
         CompostKeys x = new CompostKeys();
         CHECK.due("fresh", x.keyIn(1), 0);
+        for (int key = 0; key < 15; key++) {
+            x.ask(1);
+        }
+        CHECK.due("one fresh", x.keyIn(1), 0);
         CompostKeys y = Check.allGiven(1);
         CHECK.due("none in the pile", y.keyIn(1), -1);
         y.delete(1, 3);
@@ -110,6 +114,11 @@ public final class ForecastTest {
     private static void longestTells() {
         CompostKeys x = new CompostKeys();
         CHECK.due("fresh", x.longest(2), 99);
+        for (int key = 0; key < 15; key++) {
+            x.ask(2);
+        }
+        x.delete(2, 0);
+        CHECK.due("one fresh", x.longest(2), 99);
         CompostKeys y = Check.allGiven(2);
         CHECK.due("none in the pile", y.longest(2), -1);
         y.delete(2, 0);

@@ -114,6 +114,13 @@ public final class LooksTest {
         x.delete(0, 0);
         CHECK.due("the greatest round, of a key worn out", x.count(8), 2);
         CHECK.due("alive by account, one worn out", x.count(2), 1);
+        x.season(3, 0);
+        for (int round = 1; round <= 3; round++) {
+            x.want(3, 15);
+            x.set(1, 9);
+            x.delete(3, 15);
+        }
+        CHECK.due("the greatest round, of the last key", x.count(8), 3);
     }
 
     private static void settings() {

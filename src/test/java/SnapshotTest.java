@@ -5,6 +5,9 @@ public final class SnapshotTest {
     public static void main(String[] args) {
         slotsKeep();
         goBackBringsAll();
+        for (int kind = 0; kind < 4; kind++) {
+            undoBringsAll(kind);
+        }
         undoRestores();
         sixStatesAreSaved();
         everyUndoableCallIsSaved();
@@ -48,22 +51,41 @@ public final class SnapshotTest {
         CHECK.due("the day", x.count(0), 4);
     }
 
-    private static void goBackBringsAll() {
-        CompostKeys x = new CompostKeys();
-        changeAll(x);
-        x.keep(1);
-        Check.write(x, "a0;");
-        long before = x.digest();
-        Check.write(x, "t1");
+    /** Changes all that a snapshot holds, the order and the days of the pile of kind 0 among it. */
+    private static void changeMore(CompostKeys x) {
         Check.deleteAll(x, 0, 0, 2);
-        x.pass(9);
-        x.ask(0);
         x.turn(0);
+        x.pass(2);
+        x.bringBack(0, 2);
+        x.delete(0, 2);
+        x.want(0, 2);
+        x.want(0, 0);
+        x.ask(1);
         x.set(0, 1);
         x.set(1, 9);
         x.set(2, 1);
         x.season(0, 3);
-        x.follow(0, 3, 1);
+        x.season(3, 0);
+        x.want(3, 0);
+        x.delete(3, 0);
+        x.want(3, 0);
+        x.follow(3, 0, 1);
+        x.follow(3, 0, 2);
+        x.follow(3, 0, 3);
+    }
+
+    private static void goBackBringsAll() {
+        CompostKeys x = new CompostKeys();
+        changeAll(x);
+        Check.deleteAll(x, 0, 0, 2);
+        x.pass(1);
+        x.keep(1);
+        Check.write(x, "a0;");
+        long before = x.digest();
+        Check.write(x, "t1");
+        x.bringBack(0, 0);
+        x.bringBack(0, 2);
+        changeMore(x);
         x.goBack(1);
         CHECK.due("the buffer stays", x.clearBuffer(), 5);
         Check.write(x, "a0;");
@@ -73,6 +95,46 @@ public final class SnapshotTest {
         CHECK.due("the snapshot stays", x.digest(), before);
         x.undo();
         CHECK.due("undone", x.keyOf(3, 3, 0), 1);
+    }
+
+    /** All that is told of the state, without the saved states, the slots and the buffer. */
+    private static String looks(CompostKeys x) {
+        StringBuilder text = new StringBuilder();
+        for (int what = 0; what <= 8; what++) {
+            text.append(' ').append(x.count(what));
+        }
+        for (int setting = 0; setting <= 2; setting++) {
+            text.append(' ').append(x.setting(setting));
+        }
+        for (int kind = 0; kind < 4; kind++) {
+            for (int what = 0; what <= 10; what++) {
+                text.append(' ').append(x.kindOf(kind, what));
+            }
+            for (int at = 0; at < 16 * 5; at++) {
+                text.append(' ').append(x.keyOf(kind, at / 5, at % 5));
+            }
+        }
+        return text.toString();
+    }
+
+    private static void undoBringsAll(int kind) {
+        CompostKeys x = Check.allGiven(kind);
+        x.season(kind, 1);
+        Check.deleteAll(x, kind, 15, 14, 2);
+        x.pass(1);
+        Runnable[] deeds = {
+            () -> x.turn(kind), () -> x.bringBack(kind, 14), () -> x.pass(1),
+            () -> x.delete(kind, 14), () -> x.want(kind, 15), () -> x.follow(kind, 0, 1),
+        };
+        String[] before = new String[deeds.length];
+        for (int i = 0; i < deeds.length; i++) {
+            before[i] = looks(x);
+            deeds[i].run();
+        }
+        for (int i = deeds.length - 1; i >= 0; i--) {
+            CHECK.due("undo()", x.undo(), i);
+            CHECK.due("looks behind undo()", looks(x), before[i]);
+        }
     }
 
     private static void undoRestores() {

@@ -21,6 +21,7 @@ public final class ModelTest {
         "keyIn", "coming", "coming", "longest", "ifFollowed", "scarcest", "ripeShare", "meanAge",
     };
 
+    private final int run;
     private final Random random;
     private final int keys;
     private final int kinds;
@@ -30,6 +31,7 @@ public final class ModelTest {
     private int calls;
 
     private ModelTest(int run) {
+        this.run = run;
         random = new Random(run);
         keys = new int[] {2, 4, 16}[run % 3];
         kinds = run % 4 + 1;
@@ -49,6 +51,9 @@ public final class ModelTest {
     private void go() throws Exception {
         if (days == 99) {
             toTheLastDay();
+        }
+        if (run % 2 == 1) {
+            giveAll();
         }
         // Behind an answer that is not due the two may differ in everything.
         while (calls < CALLS && CHECK.wrong() == 0) {
@@ -123,8 +128,8 @@ public final class ModelTest {
     private void call(Method method, Object... values) throws Exception {
         calls++;
         Method due = Model.class.getMethod(method.getName(), method.getParameterTypes());
-        CHECK.due("call " + calls + ": " + method.getName() + Arrays.toString(values),
-                answer(real, method, values), answer(model, due, values));
+        CHECK.due("run " + run + ", call " + calls + ": " + method.getName()
+                + Arrays.toString(values), answer(real, method, values), answer(model, due, values));
     }
 
     private static Object answer(Object object, Method method, Object[] values) throws Exception {
@@ -150,6 +155,14 @@ public final class ModelTest {
         }
         call("firstError");
         call("run");
+    }
+
+    /** Without fresh keys, what comes next is a matter of the pile. */
+    private void giveAll() throws Exception {
+        Method ask = CompostKeys.class.getMethod("ask", int.class);
+        for (int i = 0; i < 16 * kinds; i++) {
+            call(ask, i % kinds);
+        }
     }
 
     private void toTheLastDay() throws Exception {

@@ -1,3 +1,6 @@
+import java.util.List;
+import java.util.function.Consumer;
+
 /** Promises 15 to 17: keep, goBack, undo. */
 public final class SnapshotTest {
     private static final Check CHECK = new Check("SnapshotTest");
@@ -117,23 +120,28 @@ public final class SnapshotTest {
         return text.toString();
     }
 
-    private static void undoBringsAll(int kind) {
+    private static CompostKeys withPile(int kind) {
         CompostKeys x = Check.allGiven(kind);
         x.season(kind, 1);
         Check.deleteAll(x, kind, 15, 14, 2);
         x.pass(1);
-        Runnable[] deeds = {
-            () -> x.turn(kind), () -> x.bringBack(kind, 14), () -> x.pass(1),
-            () -> x.delete(kind, 14), () -> x.want(kind, 15), () -> x.follow(kind, 0, 1),
-        };
-        String[] before = new String[deeds.length];
-        for (int i = 0; i < deeds.length; i++) {
-            before[i] = looks(x);
-            deeds[i].run();
-        }
-        for (int i = deeds.length - 1; i >= 0; i--) {
-            CHECK.due("undo()", x.undo(), i);
-            CHECK.due("looks behind undo()", looks(x), before[i]);
+        return x;
+    }
+
+    /** Looks take most of the 512 calls for which an object is used; so each has its own. */
+    private static void undoBringsAll(int kind) {
+        List<Consumer<CompostKeys>> deeds = List.of(
+                x -> x.turn(kind), x -> x.bringBack(kind, 14), x -> x.pass(1),
+                x -> x.delete(kind, 14), x -> x.want(kind, 15), x -> x.follow(kind, 0, 1));
+        for (int done = 0; done < deeds.size(); done++) {
+            CompostKeys due = withPile(kind);
+            deeds.subList(0, done).forEach(deed -> deed.accept(due));
+            CompostKeys x = withPile(kind);
+            deeds.forEach(deed -> deed.accept(x));
+            for (int left = deeds.size() - 1; left >= done; left--) {
+                CHECK.due("undo()", x.undo(), left);
+            }
+            CHECK.due("looks behind undo()", looks(x), looks(due));
         }
     }
 

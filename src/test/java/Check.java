@@ -92,7 +92,7 @@ final class Check {
         due("all behind undo() of " + call, trail(x), trail(made.get()));
     }
 
-    /** What can be seen of all that a call may change; 22 calls at the most. */
+    /** What can be seen of all that a call may change; 18 calls at the most. */
     static List<Long> trail(CompostKeys x) {
         List<Long> trail = new ArrayList<>();
         trail.add(x.digest());

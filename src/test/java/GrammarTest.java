@@ -5,7 +5,7 @@ import java.util.function.Supplier;
 /** Promises 11 to 13 and the sentences under "Input text", one method for each. */
 public final class GrammarTest {
     private static final Check CHECK = new Check("GrammarTest");
-    private static final String SIGNS = "abdpt0123456789.;x";
+    private static final String SIGNS = "abdpt/0123456789:.;x";
     /** All orders as the document lists them, and all that an order begins with. */
     private static final Set<String> ORDERS = new HashSet<>();
     private static final Set<String> BEGINNINGS = new HashSet<>();

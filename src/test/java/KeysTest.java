@@ -145,7 +145,7 @@ public final class KeysTest {
 
     private static void dayOfTheLatestDeletion() {
         CHECK.sentence("a key knows the day on which it came to lie there");
-        CompostKeys x = Check.deleteAll(Check.allGiven(0), 0, 3);
+        CompostKeys x = Check.deleteAll(Check.onDay(Check.allGiven(0), 1), 0, 3);
         x.pass(2);
         CHECK.due("days", x.keyOf(0, 3, 3), 2);
         x.bringBack(0, 3);
@@ -158,6 +158,10 @@ public final class KeysTest {
         CHECK.due("not ripe by the first one", x.ask(0), 102);
         x.pass(1);
         CHECK.due("ripe by the second one", x.ask(0), 3);
+        x.pass(6);
+        x.delete(0, 3);
+        CHECK.due("given, and deleted once more", x.keyOf(0, 3, 3), 0);
+        CHECK.due("not ripe by the second one", x.ask(0), 102);
     }
 
     private static void ripeAfterAsManyDaysAsTheSeason() {

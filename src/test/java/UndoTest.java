@@ -27,6 +27,8 @@ public final class UndoTest {
         oldestIsDroppedFirst();
         undoRestoresTheLatest();
         undoRestoresCounts();
+        undoRestoresPiles();
+        goBackRestoresPiles();
         undoLeavesSlotsAndBuffer();
         undoIsNotUndone();
         undoWithoutASavedState();
@@ -370,6 +372,48 @@ public final class UndoTest {
             x.undo();
         }
         CHECK.due("looks", looks(x), looks(begun()));
+    }
+
+    /** The keys lie for 4, 4 and 1 days, 15 on the top and 0 at the bottom. */
+    private static CompostKeys piled(int kind) {
+        CompostKeys x = Check.deleteAll(Check.allGiven(kind), kind, 0, 8);
+        x.set(2, 20);
+        x.pass(3);
+        x.delete(kind, 15);
+        x.pass(1);
+        return x;
+    }
+
+    /** Six deeds, after which the pile has the same keys for other days in another order. */
+    private static void pileAnew(CompostKeys x, int kind) {
+        x.bringBack(kind, 0);
+        x.bringBack(kind, 15);
+        x.pass(1);
+        Check.deleteAll(x, kind, 15, 0);
+        x.turn(kind);
+    }
+
+    private static void undoRestoresPiles() {
+        CHECK.sentence("17: the order of a pile and the days of its keys come back");
+        for (int kind = 0; kind < 4; kind++) {
+            CompostKeys x = piled(kind);
+            pileAnew(x, kind);
+            for (int left = 5; left >= 0; left--) {
+                CHECK.due("undo()", x.undo(), left);
+            }
+            CHECK.due("looks of kind " + kind, looks(x), looks(piled(kind)));
+        }
+    }
+
+    private static void goBackRestoresPiles() {
+        CHECK.sentence("16: the order of a pile and the days of its keys come back");
+        for (int kind = 0; kind < 4; kind++) {
+            CompostKeys x = piled(kind);
+            x.keep(kind % 2);
+            pileAnew(x, kind);
+            x.goBack(kind % 2);
+            CHECK.due("looks of kind " + kind, looks(x), looks(piled(kind)));
+        }
     }
 
     private static void undoLeavesSlotsAndBuffer() {

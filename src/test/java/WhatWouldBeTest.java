@@ -32,6 +32,7 @@ public final class WhatWouldBeTest {
         meanWithoutKeys();
         nothingIsChanged();
         lastDayDoesNotMatter();
+        ofEachKindAndKey();
         CHECK.end();
     }
 
@@ -437,5 +438,25 @@ public final class WhatWouldBeTest {
         CHECK.due("ripeShare()", x.ripeShare(), 0.0);
         CHECK.due("meanAge(0)", x.meanAge(0), 0.0f);
         CHECK.due("scarcest()", x.scarcest(), 0);
+    }
+
+    private static void ofEachKindAndKey() {
+        CHECK.sentence("23 to 26, 30: of each kind and each key");
+        for (int kind = 0; kind < 4; kind++) {
+            for (int key = 0; key < 16; key++) {
+                CompostKeys x = Check.deleteAll(Check.allGiven(kind), kind, key);
+                String row = "(" + kind + ") with key " + key;
+                x.pass(4);
+                CHECK.due("ifAsked" + row, x.ifAsked(kind), 102);
+                CHECK.due("keyIn" + row, x.keyIn(kind), 1);
+                CHECK.due("longest" + row, x.longest(kind), 4);
+                CHECK.due("meanAge" + row, x.meanAge(kind), 4.0f);
+                x.pass(1);
+                CHECK.due("ripe: ifAsked" + row, x.ifAsked(kind), key);
+                CHECK.due("ripe: keyIn" + row, x.keyIn(kind), 0);
+                CHECK.due("ripe: coming" + row, x.coming(kind, 1), key);
+                CHECK.due("ripe: ripeShare", x.ripeShare(), 1.0);
+            }
+        }
     }
 }
